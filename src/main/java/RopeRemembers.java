@@ -47,6 +47,7 @@ public final class RopeRemembers {
     private final WeekReader weekReader;
     private final int[] trail;
     private final long[] chances;
+    private final Draws draws;
     private Rule ruling;
     private Rule readRule;
 
@@ -63,6 +64,7 @@ public final class RopeRemembers {
         weekReader = new WeekReader();
         trail = new int[SETTLES_MOST + 1];
         chances = new long[FLOOD_DAYS_MOST + 1];
+        draws = new Draws();
         ruling = new Rule();
         readRule = new Rule();
     }
@@ -853,9 +855,9 @@ public final class RopeRemembers {
             return NONE;
         }
         trial.copy(now);
-        Draws draws = new Draws(seed);
+        draws.drawn = seed;
         for (int i = 0; i < n; i++) {
-            passYear(draws);
+            passYear();
         }
         told.two(trial.beliefOfAll(), trial.paid - now.paid);
         return trial.howManyIn();
@@ -895,7 +897,7 @@ public final class RopeRemembers {
         return y >= x ? v - x : 0;
     }
 
-    private void passYear(Draws draws) {
+    private void passYear() {
         int what = draws.draw(4);
         if (what < 2) {
             trial.cross(1, ruling);
@@ -1225,7 +1227,7 @@ public final class RopeRemembers {
                 coming[i] = by.behind(this, i);
                 moved |= coming[i] != belief[i];
             }
-            System.arraycopy(coming, 0, belief, 0, PEOPLE_MOST);
+            System.arraycopy(coming, 0, belief, 0, people);
             signs = 0;
             day++;
             return moved;
@@ -1798,10 +1800,6 @@ public final class RopeRemembers {
     /** Numbers drawn one behind another from a seed. */
     private static final class Draws {
         private int drawn;
-
-        Draws(int seed) {
-            drawn = seed;
-        }
 
         int draw(int n) {
             drawn = drawn * 1103515245 + 12345;

@@ -6,12 +6,15 @@ public final class BeliefTest {
         later();
         settles();
         settlesLate();
+        settlesAtTwoHundred();
         leaves();
         leavesLate();
         signs();
         signsBesides();
+        signsToAll();
         empties();
         weakest();
+        weakestAndBack();
         mean();
         CHECK.finish();
     }
@@ -76,6 +79,22 @@ public final class BeliefTest {
         x.mean();
         CHECK.due("18: 9, 4 and 7", x.settles(), -2);
         CHECK.row("18: no row is told", x, 0, 1);
+    }
+
+    /** One behind the other they lose 1 a week, on the day that d is 0: in 28 weeks all have 0. */
+    private static RopeRemembers slow(int days) {
+        RopeRemembers x = Check.made("0", "90;90a;90b;10c");
+        Check.rule(x, "b");
+        x.crossing(days);
+        Check.rule(x, "b-(d=0)*((n=0)+(a=0)>0)");
+        return x;
+    }
+
+    private static void settlesAtTwoHundred() {
+        RopeRemembers x = slow(4);
+        CHECK.due("18: 200 together", x.settles(), 193);
+        CHECK.row("18: 200 together", x, 7);
+        CHECK.due("18: 201 together", slow(3).settles(), -2);
     }
 
     private static void leaves() {
@@ -147,6 +166,14 @@ public final class BeliefTest {
         CHECK.row("20: the others are out", x, 0);
     }
 
+    private static void signsToAll() {
+        RopeRemembers x = Check.made("0", "11;11;11;11;11;11;11;11");
+        CHECK.due("20: all eight", x.signs(255, 1), 8);
+        CHECK.row("20: all eight", x, 255);
+        CHECK.due("21: all eight", x.empties(1), 8);
+        CHECK.row("21: all eight", x, 255);
+    }
+
     private static void empties() {
         RopeRemembers x = made();
         CHECK.due("21: not in one", x.empties(1), -2);
@@ -185,6 +212,26 @@ public final class BeliefTest {
         CHECK.due("22: 21", x.weakest(21), -1);
         CHECK.due("22: no people", new RopeRemembers().weakest(20), -2);
         CHECK.due("22: another n first", new RopeRemembers().weakest(0), -1);
+    }
+
+    private static void weakestAndBack() {
+        RopeRemembers x = Check.made("0", "55");
+        Check.rule(x, "b-1+g");
+        CHECK.due("22: held for one", x.weakest(1), 0);
+        CHECK.row("22: held for one", x, 1, 0);
+        CHECK.due("22: held no longer", x.weakest(2), 0);
+        CHECK.row("22: held no longer", x, 0, 0);
+        Check.rule(x, "9-b");
+        CHECK.due("22: out and in", x.weakest(2), 0);
+        CHECK.row("22: out and in", x, 1, 1);
+        CHECK.due("44: out and in", Check.law(x, "b"), 0);
+        CHECK.row("44: out and in", x, 1, 1);
+        CHECK.due("44: in and out", Check.law(x, "9-b-(d>8)"), 0);
+        CHECK.row("44: in and out", x, 1, 1);
+        x = Check.made("0", "03");
+        Check.rule(x, "d");
+        CHECK.due("22: by days alone", x.weakest(5), 0);
+        CHECK.row("22: by days alone", x, 1, 1);
     }
 
     private static void mean() {
