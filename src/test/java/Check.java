@@ -55,6 +55,35 @@ final class Check {
         return x;
     }
 
+    /** All that can be seen of an object but for the ROW and THE TEXT. */
+    static String state(RopeRemembers x) {
+        StringBuilder all = new StringBuilder();
+        for (int what = 0; what <= 14; what++) {
+            all.append(what == 11 || what == 12 ? "" : x.count(what) + " ");
+        }
+        for (int i = 0; i < x.count(0); i++) {
+            all.append("| ").append(x.furrow(i, 0)).append(x.furrow(i, 1));
+        }
+        for (int i = 0; i < x.count(3); i++) {
+            for (int what = 0; what <= 5; what++) {
+                all.append(what == 0 ? "; " : " ").append(x.person(i, what));
+            }
+        }
+        return all.toString();
+    }
+
+    static String rowOf(RopeRemembers x) {
+        StringBuilder all = new StringBuilder();
+        for (int i = 0; i < x.count(11); i++) {
+            all.append(x.row(i)).append(' ');
+        }
+        return all.toString();
+    }
+
+    static String many(String part, int times) {
+        return part.repeat(times);
+    }
+
     void due(String what, long got, long want) {
         asked++;
         if (got != want) {
