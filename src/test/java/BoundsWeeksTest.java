@@ -286,19 +286,19 @@ public final class BoundsWeeksTest {
 
     /** Promise 15: "nothing is done then"; THE TEXT is empty. */
     private static void weekRefused() {
-        RopeRemembers x = made();
-        x.crossing(1);
-        String before = Check.state(x);
         String[] texts = {"c", "c/", "c:", "s", "s`", "si", "g", "g`a", "ga", "gai", "ga`", "c1c", "sas", "gabg", "-c1 ",
             "c1;", "1", "+,", "C1", "c1\0"};
         int[] due = {-2, -2, -2, -2, -2, -2, -2, -2, -3, -3, -3, -4, -4, -5, -4, -3, -1, -2, -1, -3};
         for (int i = 0; i < texts.length; i++) {
+            RopeRemembers x = made();
+            x.crossing(1);
+            String before = Check.state(x);
             CHECK.due("15: '" + texts[i] + "'", Check.week(x, texts[i]), due[i]);
             CHECK.due("15: the text is empty", x.count(12), 0);
             CHECK.same("15: refused", Check.state(x), before);
             CHECK.row("15: refused leaves the row", x, 14, 0);
+            CHECK.due("15: nothing stays of it", Check.week(x, "gab"), 1);
         }
-        CHECK.due("15: nothing stays of it", Check.week(x, "gab"), 1);
     }
 
     private static int act(RopeRemembers x, int which) {

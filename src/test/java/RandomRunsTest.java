@@ -2,12 +2,13 @@ import java.util.NoSuchElementException;
 import java.util.Random;
 
 /**
- * All promises: runs of 500 calls drawn by seeds, each call asked of the
+ * All promises: runs of some 500 calls drawn by seeds, each call asked of the
  * program and of the model; their answers must be the same.
  */
 public final class RandomRunsTest {
     private static final int RUNS = 400;
-    private static final int CALLS = 500;
+    /** A text's calls may go beyond it, but not beyond 512. */
+    private static final int CALLS = 490;
     private static final long THROWN = Long.MIN_VALUE;
     private static final int[] EXTREMES = {Integer.MIN_VALUE, Integer.MAX_VALUE, -1, -2, 32, 64, 256, 1 << 16, 1 << 31};
     private static final String SIGNS = "0123456789abcdefghx;+-*/<>=()cgs z\u00e9";
@@ -33,7 +34,7 @@ public final class RandomRunsTest {
                 System.exit(1);
             }
         }
-        System.out.println("RandomRunsTest: " + runs + " runs of " + CALLS + " calls, all answers as the model's");
+        System.out.println("RandomRunsTest: " + runs + " runs of some " + CALLS + " calls, all answers as the model's");
     }
 
     private boolean run() {
