@@ -17,6 +17,7 @@ public final class BoundsBeliefTest {
         signsCrossings();
         signsOfEight();
         signsNotByAll();
+        signsAsItIsNow();
         signsRefused();
         emptiesCrossings();
         emptiesNow();
@@ -206,6 +207,16 @@ public final class BoundsBeliefTest {
         CHECK.due("20: not by all", x.signs(1, 1), -2);
         CHECK.row("20: no row is told", x, 9, 1);
         CHECK.due("20: those told alone count", Check.made("0", "90;09").signs(2, 1), 0);
+    }
+
+    /** Promise 20: by BELIEF as it is now, not as a question asked ahead of it left it. */
+    private static void signsAsItIsNow() {
+        RopeRemembers x = onDay(0, "66", "9");
+        x.later(1);
+        Check.rule(x, "b-g*3");
+        CHECK.due("20: a sign moves it", x.signs(1, 1), 1);
+        CHECK.row("20: a sign moves it", x, 1);
+        CHECK.due("21: a sign moves it", x.empties(1), 1);
     }
 
     /** Promise 20: "NONE: others." */
