@@ -415,6 +415,15 @@ public final class BoundsFieldTest {
         CHECK.due("6: a comparison", Check.rule(x, "1<2"), 0);
         CHECK.due("6: another one", Check.rule(x, "b>4"), 0);
         CHECK.due("6: 1", x.person(0, 4), 1);
+        for (int i = 0; i < 3; i++) {
+            CHECK.due("6: a long one", Check.rule(x, "-b+9---b"), 0);
+            CHECK.due("6: -5 + 9 - 5", x.person(0, 4), 0);
+            CHECK.due("6: one with - ahead", Check.rule(x, "-b"), 0);
+            CHECK.due("6: a short one", Check.rule(x, "b"), 0);
+            CHECK.due("6: 5", x.person(0, 4), 5);
+            CHECK.due("6: a short one once more", Check.rule(x, "b"), 0);
+            CHECK.due("6: 5", x.person(0, 4), 5);
+        }
         x.crossing(1);
         CHECK.due("6: rule() can't be undone", Check.rule(x, "9"), 0);
         x.undo();
